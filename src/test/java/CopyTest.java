@@ -6,6 +6,7 @@ public final class CopyTest {
         everyState();
         copiesAreIndependent();
         deepChainIsCopied();
+        everyRegisterIsCopied();
         ontoItself();
         badNumbers();
         due.end();
@@ -74,6 +75,33 @@ public final class CopyTest {
         x.resume(0, 0);
         x.resume(2, 40);
         due.stands("its four frames return", x, 2, CoroutineFrames.DONE, 43, 0, 7);
+    }
+
+    /** Each of four frames holds a number in R[b]; unwinding the copy adds them up. */
+    private static void everyRegisterIsCopied() {
+        for (int b = 0; b < 4; b++) {
+            int a = (b + 1) % 4;
+            CoroutineFrames x = new CoroutineFrames();
+            new Code(x).yield(0, b).yield(0, a).jpos(a, 4).ret(b).call(a, 0).add(a, b).ret(a);
+            goDeep(x, 0, 1);
+            due.same("copy", x.copy(0, 1), CoroutineFrames.WAITING);
+            goDeep(x, 0, 5);
+            due.same("depth of the copy", x.depth(1), 4);
+            due.same("resume of the copy", x.resume(1, 0), CoroutineFrames.DONE);
+            due.same("R[" + b + "] of all the copy's frames", x.value(1), 1111);
+            x.resume(0, 0);
+            due.same("R[" + b + "] of all the first's frames", x.value(0), 5555);
+        }
+    }
+
+    private static void goDeep(CoroutineFrames x, int co, int digit) {
+        x.start(co, 0, 0);
+        x.resume(co, 0);
+        x.resume(co, digit);
+        for (int held = digit * 10; held <= digit * 1000; held *= 10) {
+            x.resume(co, 1);
+            x.resume(co, held);
+        }
     }
 
     private static void ontoItself() {
