@@ -232,7 +232,6 @@ public final class CoroutineFrames {
     // last one that the limit allows as well: such a coroutine may still be done.
     private void run(int co) {
         states[co] = RUNNING;
-        values[co] = 0;
         stepCounts[co] = 0;
         returnAtEnd(co);
         for (int i = 0; i < STEP_LIMIT && states[co] == RUNNING; i++) {
