@@ -21,6 +21,8 @@ public final class FaceTest {
         due.yes("class public", Modifier.isPublic(CoroutineFrames.class.getModifiers()));
         due.yes("class final", Modifier.isFinal(CoroutineFrames.class.getModifiers()));
         due.same("nested classes", CoroutineFrames.class.getDeclaredClasses().length, 0);
+        due.yes("extends nothing", CoroutineFrames.class.getSuperclass() == Object.class);
+        due.same("interfaces", CoroutineFrames.class.getInterfaces().length, 0);
         due.end();
     }
 
